@@ -1,0 +1,152 @@
+import java.lang.reflect.Field;
+
+/**
+ * No answer shows what is done to the link, so promises 5 and 6 are looked at from inside here:
+ * an undisturbed first message takes two pieces of each end (ask, data; answer, answer).
+ */
+public final class LinkInsideTest {
+    private static final int LOST = 0;
+    private static final int DOUBLED = 1;
+    private static final int SPOILED = 2;
+    private static final int DELAYED = 3;
+    private static final Due t = new Due();
+
+    public static void main(String[] args) throws ReflectiveOperationException {
+        undisturbed();
+        oneOrder();
+        orderWaitsForItsPiece();
+        twelveOrdersAreRemembered();
+        restartForgetsTheLink();
+        restartLeavesTheOrders();
+        everyOneOrTwoBitsAreFound();
+        t.end();
+    }
+
+    private static Object inside(LinkStack x, String name) throws ReflectiveOperationException {
+        Field field = LinkStack.class.getDeclaredField(name);
+        field.setAccessible(true);
+        return field.get(x);
+    }
+
+    private static int sent(LinkStack x, int e) throws ReflectiveOperationException {
+        return ((int[]) inside(x, "piecesSent"))[e];
+    }
+
+    private static int orders(LinkStack x, int e) throws ReflectiveOperationException {
+        return ((int[]) inside(x, "orderCount"))[e];
+    }
+
+    private static void sendOne(LinkStack x) {
+        x.write(0, 33);
+        x.post(0, 0);
+        t.due("settle", 1, x.settle());
+        t.due("byte", 33, x.byteAt(1, 0, 0));
+        x.take(1);
+    }
+
+    private static void undisturbed() throws ReflectiveOperationException {
+        LinkStack x = new LinkStack();
+        sendOne(x);
+        t.due("pieces of end 0", 2, sent(x, 0));
+        t.due("pieces of end 1", 2, sent(x, 1));
+        sendOne(x);
+        t.due("pieces of end 0, number known", 3, sent(x, 0));
+        t.due("pieces of end 1, number known", 3, sent(x, 1));
+        x.settle();
+        t.due("nothing to send", 3, sent(x, 0));
+    }
+
+    private static void oneOrder() throws ReflectiveOperationException {
+        for (int e = 0; e < 2; e++) {
+            for (int k = 0; k < 2; k++) {
+                for (int kind = 0; kind < 4; kind++) {
+                    LinkStack x = new LinkStack();
+                    x.disturb(e, k, kind);
+                    sendOne(x);
+                    String order = "order " + e + " " + k + " " + kind;
+                    t.due(order + " is done", 0, orders(x, e));
+                    if (kind == LOST || kind == SPOILED) {
+                        t.due(order + ": sent again", 3, sent(x, 0));
+                    }
+                    if (kind == DELAYED) {
+                        t.due(order + ": sent again", true, sent(x, 0) >= 3);
+                    }
+                    if (kind == DOUBLED && e == 0) {
+                        t.due(order + ": answered twice", 3, sent(x, 1));
+                    }
+                    if (kind == DOUBLED) {
+                        t.due(order + ": sent once", 2, sent(x, 0));
+                    }
+                }
+            }
+        }
+    }
+
+    private static void orderWaitsForItsPiece() throws ReflectiveOperationException {
+        LinkStack x = new LinkStack();
+        x.disturb(0, 15, LOST);
+        for (int n = 1; n <= 14; n++) {
+            sendOne(x);
+        }
+        t.due("fifteen pieces", 15, sent(x, 0));
+        t.due("the order waits", 1, orders(x, 0));
+        sendOne(x);
+        t.due("the sixteenth is lost", 17, sent(x, 0));
+        t.due("the order is done", 0, orders(x, 0));
+    }
+
+    private static void twelveOrdersAreRemembered() throws ReflectiveOperationException {
+        LinkStack x = new LinkStack();
+        for (int n = 0; n < 14; n++) {
+            t.due("disturb", true, x.disturb(0, n, LOST));
+        }
+        t.due("orders of end 0", 12, orders(x, 0));
+        t.due("orders of end 1", 0, orders(x, 1));
+        t.due("disturb 1", true, x.disturb(1, 0, LOST));
+        t.due("orders of end 1", 1, orders(x, 1));
+        sendOne(x);
+        // Twelve asks are lost, then ask and its lost answer, then ask and data.
+        t.due("pieces of end 0", 15, sent(x, 0));
+        t.due("orders are done", 0, orders(x, 0));
+    }
+
+    private static void restartForgetsTheLink() throws ReflectiveOperationException {
+        LinkStack x = new LinkStack();
+        sendOne(x);
+        x.restart(1);
+        sendOne(x);
+        t.due("the receiver's restart costs nothing", 3, sent(x, 0));
+        x.restart(0);
+        sendOne(x);
+        t.due("the sender has to ask again", 5, sent(x, 0));
+    }
+
+    private static void restartLeavesTheOrders() throws ReflectiveOperationException {
+        LinkStack x = new LinkStack();
+        x.disturb(0, 0, LOST);
+        x.restart(0);
+        t.due("it is the link that remembers", 1, orders(x, 0));
+    }
+
+    /** The longest piece has 30 bytes; the checksum is linear, so one content stands for all. */
+    private static void everyOneOrTwoBitsAreFound() throws ReflectiveOperationException {
+        var checksum = LinkStack.class.getDeclaredMethod("checksum", int[].class, int.class, int.class);
+        checksum.setAccessible(true);
+        for (int length : new int[] {6, 7, 30}) {
+            int[] syndromes = new int[length * 8];
+            int zero = (int) checksum.invoke(null, new int[length], 0, length - 2);
+            for (int bit = 0; bit < length * 8; bit++) {
+                int[] piece = new int[length];
+                piece[bit / 8] = 1 << (bit % 8);
+                int stored = piece[length - 2] * 256 + piece[length - 1];
+                syndromes[bit] = (int) checksum.invoke(null, piece, 0, length - 2) ^ zero ^ stored;
+            }
+            for (int one = 0; one < length * 8; one++) {
+                t.due("bit " + one + " is found", true, syndromes[one] != 0);
+                for (int other = 0; other < one; other++) {
+                    t.due("bits " + one + ", " + other + " are found", true, syndromes[one] != syndromes[other]);
+                }
+            }
+        }
+    }
+}
