@@ -14,6 +14,7 @@ public final class LinkInsideTest {
     public static void main(String[] args) throws ReflectiveOperationException {
         undisturbed();
         oneOrder();
+        everySpoiledPieceIsRefused();
         orderWaitsForItsPiece();
         twelveOrdersAreRemembered();
         restartForgetsTheLink();
@@ -79,6 +80,27 @@ public final class LinkInsideTest {
                     }
                 }
             }
+        }
+    }
+
+    /** Whichever bits the link picks for a piece, of every length, one at least is changed. */
+    private static void everySpoiledPieceIsRefused() throws ReflectiveOperationException {
+        LinkStack x = new LinkStack();
+        sendOne(x);
+        for (int n = 0; n < 5000; n++) {
+            for (int i = 0; i < n % 25; i++) {
+                x.write(0, i);
+            }
+            x.post(0, 0);
+            int before = sent(x, 0);
+            // A second spoiling shifts which pieces are hit, so that odd and even ones are.
+            x.disturb(0, 0, SPOILED);
+            if (n % 3 == 0) {
+                x.disturb(0, 1, SPOILED);
+            }
+            x.settle();
+            t.due("spoiled piece " + before + " is sent again", before + (n % 3 == 0 ? 3 : 2), sent(x, 0));
+            t.due("length", n % 25, x.take(1));
         }
     }
 
