@@ -15,8 +15,11 @@ public final class LinkInsideTest {
         undisturbed();
         oneOrder();
         everySpoiledPieceIsRefused();
+        spoiledInABitOrTwo();
         orderWaitsForItsPiece();
+        ordersCountFromNowOn();
         twelveOrdersAreRemembered();
+        twelveNewOrdersWhenTheOldAreDone();
         restartForgetsTheLink();
         restartLeavesTheOrders();
         everyOneOrTwoBitsAreFound();
@@ -104,6 +107,34 @@ public final class LinkInsideTest {
         }
     }
 
+    /** The choice of the bits repeats after twice as many pieces as the longest has bits. */
+    private static void spoiledInABitOrTwo() throws ReflectiveOperationException {
+        var spoil = LinkStack.class.getDeclaredMethod("spoilNewPiece", int.class);
+        spoil.setAccessible(true);
+        Field length = LinkStack.class.getDeclaredField("newLength");
+        length.setAccessible(true);
+        LinkStack x = new LinkStack();
+        int[] piece = (int[]) inside(x, "newPiece");
+        boolean one = false;
+        boolean two = false;
+        for (int size = 6; size <= 30; size++) {
+            length.setInt(x, size);
+            for (int choice = 0; choice <= 480; choice++) {
+                spoil.invoke(x, choice);
+                int bits = 0;
+                for (int i = 0; i < piece.length; i++) {
+                    bits += i < size ? Integer.bitCount(piece[i] & 255) : 0;
+                    piece[i] = 0;
+                }
+                t.due("one or two bits", true, bits == 1 || bits == 2);
+                one |= bits == 1;
+                two |= bits == 2;
+            }
+        }
+        t.due("one bit at times", true, one);
+        t.due("two bits at times", true, two);
+    }
+
     private static void orderWaitsForItsPiece() throws ReflectiveOperationException {
         LinkStack x = new LinkStack();
         x.disturb(0, 15, LOST);
@@ -115,6 +146,25 @@ public final class LinkInsideTest {
         sendOne(x);
         t.due("the sixteenth is lost", 17, sent(x, 0));
         t.due("the order is done", 0, orders(x, 0));
+    }
+
+    /** Orders given when some pieces have been sent count from there. */
+    private static void ordersCountFromNowOn() throws ReflectiveOperationException {
+        for (int before = 1; before < 20; before++) {
+            LinkStack x = new LinkStack();
+            for (int n = 0; n < before; n++) {
+                sendOne(x);
+            }
+            int pieces = sent(x, 0);
+            x.disturb(0, 0, LOST);
+            x.disturb(0, 2, LOST);
+            sendOne(x);
+            t.due("the next piece is lost", pieces + 2, sent(x, 0));
+            t.due("the other order waits", 1, orders(x, 0));
+            sendOne(x);
+            t.due("the third piece is lost", pieces + 4, sent(x, 0));
+            t.due("both are done", 0, orders(x, 0));
+        }
     }
 
     private static void twelveOrdersAreRemembered() throws ReflectiveOperationException {
@@ -130,6 +180,20 @@ public final class LinkInsideTest {
         // Twelve asks are lost, then ask and its lost answer, then ask and data.
         t.due("pieces of end 0", 15, sent(x, 0));
         t.due("orders are done", 0, orders(x, 0));
+    }
+
+    private static void twelveNewOrdersWhenTheOldAreDone() throws ReflectiveOperationException {
+        LinkStack x = new LinkStack();
+        for (int round = 0; round < 3; round++) {
+            for (int n = 0; n < 12; n++) {
+                x.disturb(0, n, LOST);
+                t.due("remembered", n + 1, orders(x, 0));
+            }
+            int before = sent(x, 0);
+            sendOne(x);
+            t.due("twelve are lost", before + 12 + (round == 0 ? 2 : 1), sent(x, 0));
+            t.due("done", 0, orders(x, 0));
+        }
     }
 
     private static void restartForgetsTheLink() throws ReflectiveOperationException {
