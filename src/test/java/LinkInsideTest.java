@@ -1,4 +1,5 @@
 import java.lang.reflect.Field;
+import java.util.Random;
 
 /**
  * No answer shows what is done to the link, so promises 5 and 6 are looked at from inside here:
@@ -18,9 +19,11 @@ public final class LinkInsideTest {
         spoiledInABitOrTwo();
         orderWaitsForItsPiece();
         ordersCountFromNowOn();
+        ordersComeDueAsGiven();
         twelveOrdersAreRemembered();
         twelveNewOrdersWhenTheOldAreDone();
         restartForgetsTheLink();
+        restartForgetsTheLinkOnEitherChannel();
         restartLeavesTheOrders();
         everyOneOrTwoBitsAreFound();
         t.end();
@@ -167,6 +170,37 @@ public final class LinkInsideTest {
         }
     }
 
+    /** Drawn orders, given between pieces, beside a plain table of what is to befall which piece. */
+    private static void ordersComeDueAsGiven() throws ReflectiveOperationException {
+        var takeDue = LinkStack.class.getDeclaredMethod("takeOrdersDue", int.class);
+        takeDue.setAccessible(true);
+        for (int seed = 0; seed < 500; seed++) {
+            Random r = new Random(seed);
+            LinkStack x = new LinkStack();
+            int[][] effects = new int[2][200];
+            int[][] count = new int[2][200];
+            int[] kept = new int[2];
+            for (int piece = 0; piece < 100; piece++) {
+                for (int n = r.nextInt(5); n > 0; n--) {
+                    int e = r.nextInt(2);
+                    int k = r.nextInt(16);
+                    int kind = r.nextInt(4);
+                    x.disturb(e, k, kind);
+                    if (kept[e] < 12) {
+                        effects[e][piece + k] |= 1 << kind;
+                        count[e][piece + k]++;
+                        kept[e]++;
+                    }
+                }
+                for (int e = 0; e < 2; e++) {
+                    t.due("piece " + piece, effects[e][piece], (int) takeDue.invoke(x, e));
+                    kept[e] -= count[e][piece];
+                    t.due("orders left", kept[e], orders(x, e));
+                }
+            }
+        }
+    }
+
     private static void twelveOrdersAreRemembered() throws ReflectiveOperationException {
         LinkStack x = new LinkStack();
         for (int n = 0; n < 14; n++) {
@@ -205,6 +239,27 @@ public final class LinkInsideTest {
         x.restart(0);
         sendOne(x);
         t.due("the sender has to ask again", 5, sent(x, 0));
+    }
+
+    private static void restartForgetsTheLinkOnEitherChannel() throws ReflectiveOperationException {
+        for (int port = 0; port < 4; port++) {
+            int e = port % 2;
+            LinkStack x = new LinkStack();
+            Messages.sendFrom(x, port, 1, 0);
+            x.settle();
+            for (int round = 0; round < 3; round++) {
+                int before = sent(x, e);
+                if (round == 1) {
+                    x.restart(e);
+                }
+                if (round == 2) {
+                    x.restart(1 - e);
+                }
+                Messages.sendFrom(x, port, 1, 1);
+                x.settle();
+                t.due("port " + port + ", round " + round, before + (round == 1 ? 2 : 1), sent(x, e));
+            }
+        }
     }
 
     private static void restartLeavesTheOrders() throws ReflectiveOperationException {
