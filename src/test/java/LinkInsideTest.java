@@ -1,4 +1,5 @@
 import java.lang.reflect.Field;
+import java.lang.reflect.Method;
 import java.util.Random;
 
 /**
@@ -112,7 +113,7 @@ public final class LinkInsideTest {
 
     /** The choice of the bits repeats after twice as many pieces as the longest has bits. */
     private static void spoiledInABitOrTwo() throws ReflectiveOperationException {
-        var spoil = LinkStack.class.getDeclaredMethod("spoilNewPiece", int.class);
+        Method spoil = LinkStack.class.getDeclaredMethod("spoilNewPiece", int.class);
         spoil.setAccessible(true);
         Field length = LinkStack.class.getDeclaredField("newLength");
         length.setAccessible(true);
@@ -172,7 +173,7 @@ public final class LinkInsideTest {
 
     /** Drawn orders, given between pieces, beside a plain table of what is to befall which piece. */
     private static void ordersComeDueAsGiven() throws ReflectiveOperationException {
-        var takeDue = LinkStack.class.getDeclaredMethod("takeOrdersDue", int.class);
+        Method takeDue = LinkStack.class.getDeclaredMethod("takeOrdersDue", int.class);
         takeDue.setAccessible(true);
         for (int seed = 0; seed < 500; seed++) {
             Random r = new Random(seed);
@@ -269,25 +270,47 @@ public final class LinkInsideTest {
         t.due("it is the link that remembers", 1, orders(x, 0));
     }
 
-    /** The longest piece has 30 bytes; the checksum is linear, so one content stands for all. */
+    /** Drawn contents, as nothing here may presume how the checksum is reckoned. */
     private static void everyOneOrTwoBitsAreFound() throws ReflectiveOperationException {
-        var checksum = LinkStack.class.getDeclaredMethod("checksum", int[].class, int.class, int.class);
+        Method checksum = LinkStack.class.getDeclaredMethod("checksum", int[].class, int.class, int.class);
         checksum.setAccessible(true);
-        for (int length : new int[] {6, 7, 30}) {
-            int[] syndromes = new int[length * 8];
-            int zero = (int) checksum.invoke(null, new int[length], 0, length - 2);
-            for (int bit = 0; bit < length * 8; bit++) {
+        Random r = new Random(1);
+        for (int length : new int[] {6, 7, 18, 30}) {
+            for (int content = 0; content < 12; content++) {
                 int[] piece = new int[length];
-                piece[bit / 8] = 1 << (bit % 8);
-                int stored = piece[length - 2] * 256 + piece[length - 1];
-                syndromes[bit] = (int) checksum.invoke(null, piece, 0, length - 2) ^ zero ^ stored;
-            }
-            for (int one = 0; one < length * 8; one++) {
-                t.due("bit " + one + " is found", true, syndromes[one] != 0);
-                for (int other = 0; other < one; other++) {
-                    t.due("bits " + one + ", " + other + " are found", true, syndromes[one] != syndromes[other]);
+                for (int i = 0; i < length - 2; i++) {
+                    piece[i] = content == 0 ? 0 : content == 1 ? 255 : r.nextInt(256);
                 }
+                int sum = (int) checksum.invoke(null, piece, 0, length - 2);
+                t.due("the sum has two bytes", true, sum >= 0 && sum <= 0xFFFF);
+                piece[length - 2] = sum >> 8;
+                piece[length - 1] = sum & 255;
+                everyOneOrTwoBitsAreFound(checksum, piece);
             }
         }
+    }
+
+    private static void everyOneOrTwoBitsAreFound(Method checksum, int[] piece) throws ReflectiveOperationException {
+        for (int one = 0; one < piece.length * 8; one++) {
+            flip(piece, one);
+            t.due("bit " + one + " is found", false, isSound(checksum, piece));
+            for (int other = 0; other < one; other++) {
+                flip(piece, other);
+                t.due("bits " + one + " and " + other + " are found", false, isSound(checksum, piece));
+                flip(piece, other);
+            }
+            flip(piece, one);
+        }
+        t.due("unspoiled", true, isSound(checksum, piece));
+    }
+
+    private static void flip(int[] piece, int bit) {
+        piece[bit / 8] ^= 1 << (bit % 8);
+    }
+
+    private static boolean isSound(Method checksum, int[] piece) throws ReflectiveOperationException {
+        int checked = piece.length - 2;
+        int sum = (int) checksum.invoke(null, piece, 0, checked);
+        return sum == piece[checked] * 256 + piece[checked + 1];
     }
 }
