@@ -30,20 +30,6 @@ public final class LinkInsideTest {
         t.end();
     }
 
-    private static Object inside(LinkStack x, String name) throws ReflectiveOperationException {
-        Field field = LinkStack.class.getDeclaredField(name);
-        field.setAccessible(true);
-        return field.get(x);
-    }
-
-    private static int sent(LinkStack x, int e) throws ReflectiveOperationException {
-        return ((int[]) inside(x, "piecesSent"))[e];
-    }
-
-    private static int orders(LinkStack x, int e) throws ReflectiveOperationException {
-        return ((int[]) inside(x, "orderCount"))[e];
-    }
-
     private static void sendOne(LinkStack x) {
         x.write(0, 33);
         x.post(0, 0);
@@ -55,13 +41,13 @@ public final class LinkInsideTest {
     private static void undisturbed() throws ReflectiveOperationException {
         LinkStack x = new LinkStack();
         sendOne(x);
-        t.due("pieces of end 0", 2, sent(x, 0));
-        t.due("pieces of end 1", 2, sent(x, 1));
+        t.due("pieces of end 0", 2, Inside.sent(x, 0));
+        t.due("pieces of end 1", 2, Inside.sent(x, 1));
         sendOne(x);
-        t.due("pieces of end 0, number known", 3, sent(x, 0));
-        t.due("pieces of end 1, number known", 3, sent(x, 1));
+        t.due("pieces of end 0, number known", 3, Inside.sent(x, 0));
+        t.due("pieces of end 1, number known", 3, Inside.sent(x, 1));
         x.settle();
-        t.due("nothing to send", 3, sent(x, 0));
+        t.due("nothing to send", 3, Inside.sent(x, 0));
     }
 
     private static void oneOrder() throws ReflectiveOperationException {
@@ -72,18 +58,18 @@ public final class LinkInsideTest {
                     x.disturb(e, k, kind);
                     sendOne(x);
                     String order = "order " + e + " " + k + " " + kind;
-                    t.due(order + " is done", 0, orders(x, e));
+                    t.due(order + " is done", 0, Inside.orders(x, e));
                     if (kind == LOST || kind == SPOILED) {
-                        t.due(order + ": sent again", 3, sent(x, 0));
+                        t.due(order + ": sent again", 3, Inside.sent(x, 0));
                     }
                     if (kind == DELAYED) {
-                        t.due(order + ": sent again", true, sent(x, 0) >= 3);
+                        t.due(order + ": sent again", true, Inside.sent(x, 0) >= 3);
                     }
                     if (kind == DOUBLED && e == 0) {
-                        t.due(order + ": answered twice", 3, sent(x, 1));
+                        t.due(order + ": answered twice", 3, Inside.sent(x, 1));
                     }
                     if (kind == DOUBLED) {
-                        t.due(order + ": sent once", 2, sent(x, 0));
+                        t.due(order + ": sent once", 2, Inside.sent(x, 0));
                     }
                 }
             }
@@ -99,26 +85,24 @@ public final class LinkInsideTest {
                 x.write(0, i);
             }
             x.post(0, 0);
-            int before = sent(x, 0);
+            int before = Inside.sent(x, 0);
             // A second spoiling shifts which pieces are hit, so that odd and even ones are.
             x.disturb(0, 0, SPOILED);
             if (n % 3 == 0) {
                 x.disturb(0, 1, SPOILED);
             }
             x.settle();
-            t.due("spoiled piece " + before + " is sent again", before + (n % 3 == 0 ? 3 : 2), sent(x, 0));
+            t.due("spoiled piece " + before + " is sent again", before + (n % 3 == 0 ? 3 : 2), Inside.sent(x, 0));
             t.due("length", n % 25, x.take(1));
         }
     }
 
     /** The choice of the bits repeats after twice as many pieces as the longest has bits. */
     private static void spoiledInABitOrTwo() throws ReflectiveOperationException {
-        Method spoil = LinkStack.class.getDeclaredMethod("spoilNewPiece", int.class);
-        spoil.setAccessible(true);
-        Field length = LinkStack.class.getDeclaredField("newLength");
-        length.setAccessible(true);
+        Method spoil = Inside.method("spoilNewPiece", int.class);
+        Field length = Inside.field("newLength");
         LinkStack x = new LinkStack();
-        int[] piece = (int[]) inside(x, "newPiece");
+        int[] piece = Inside.ints(x, "newPiece");
         boolean one = false;
         boolean two = false;
         for (int size = 6; size <= 30; size++) {
@@ -145,11 +129,11 @@ public final class LinkInsideTest {
         for (int n = 1; n <= 14; n++) {
             sendOne(x);
         }
-        t.due("fifteen pieces", 15, sent(x, 0));
-        t.due("the order waits", 1, orders(x, 0));
+        t.due("fifteen pieces", 15, Inside.sent(x, 0));
+        t.due("the order waits", 1, Inside.orders(x, 0));
         sendOne(x);
-        t.due("the sixteenth is lost", 17, sent(x, 0));
-        t.due("the order is done", 0, orders(x, 0));
+        t.due("the sixteenth is lost", 17, Inside.sent(x, 0));
+        t.due("the order is done", 0, Inside.orders(x, 0));
     }
 
     /** Orders given when some pieces have been sent count from there. */
@@ -159,22 +143,21 @@ public final class LinkInsideTest {
             for (int n = 0; n < before; n++) {
                 sendOne(x);
             }
-            int pieces = sent(x, 0);
+            int pieces = Inside.sent(x, 0);
             x.disturb(0, 0, LOST);
             x.disturb(0, 2, LOST);
             sendOne(x);
-            t.due("the next piece is lost", pieces + 2, sent(x, 0));
-            t.due("the other order waits", 1, orders(x, 0));
+            t.due("the next piece is lost", pieces + 2, Inside.sent(x, 0));
+            t.due("the other order waits", 1, Inside.orders(x, 0));
             sendOne(x);
-            t.due("the third piece is lost", pieces + 4, sent(x, 0));
-            t.due("both are done", 0, orders(x, 0));
+            t.due("the third piece is lost", pieces + 4, Inside.sent(x, 0));
+            t.due("both are done", 0, Inside.orders(x, 0));
         }
     }
 
     /** Drawn orders, given between pieces, beside a plain table of what is to befall which piece. */
     private static void ordersComeDueAsGiven() throws ReflectiveOperationException {
-        Method takeDue = LinkStack.class.getDeclaredMethod("takeOrdersDue", int.class);
-        takeDue.setAccessible(true);
+        Method takeDue = Inside.method("takeOrdersDue", int.class);
         for (int seed = 0; seed < 500; seed++) {
             Random r = new Random(seed);
             LinkStack x = new LinkStack();
@@ -196,7 +179,7 @@ public final class LinkInsideTest {
                 for (int e = 0; e < 2; e++) {
                     t.due("piece " + piece, effects[e][piece], (int) takeDue.invoke(x, e));
                     kept[e] -= count[e][piece];
-                    t.due("orders left", kept[e], orders(x, e));
+                    t.due("orders left", kept[e], Inside.orders(x, e));
                 }
             }
         }
@@ -207,14 +190,14 @@ public final class LinkInsideTest {
         for (int n = 0; n < 14; n++) {
             t.due("disturb", true, x.disturb(0, n, LOST));
         }
-        t.due("orders of end 0", 12, orders(x, 0));
-        t.due("orders of end 1", 0, orders(x, 1));
+        t.due("orders of end 0", 12, Inside.orders(x, 0));
+        t.due("orders of end 1", 0, Inside.orders(x, 1));
         t.due("disturb 1", true, x.disturb(1, 0, LOST));
-        t.due("orders of end 1", 1, orders(x, 1));
+        t.due("orders of end 1", 1, Inside.orders(x, 1));
         sendOne(x);
         // Twelve asks are lost, then ask and its lost answer, then ask and data.
-        t.due("pieces of end 0", 15, sent(x, 0));
-        t.due("orders are done", 0, orders(x, 0));
+        t.due("pieces of end 0", 15, Inside.sent(x, 0));
+        t.due("orders are done", 0, Inside.orders(x, 0));
     }
 
     private static void twelveNewOrdersWhenTheOldAreDone() throws ReflectiveOperationException {
@@ -222,12 +205,12 @@ public final class LinkInsideTest {
         for (int round = 0; round < 3; round++) {
             for (int n = 0; n < 12; n++) {
                 x.disturb(0, n, LOST);
-                t.due("remembered", n + 1, orders(x, 0));
+                t.due("remembered", n + 1, Inside.orders(x, 0));
             }
-            int before = sent(x, 0);
+            int before = Inside.sent(x, 0);
             sendOne(x);
-            t.due("twelve are lost", before + 12 + (round == 0 ? 2 : 1), sent(x, 0));
-            t.due("done", 0, orders(x, 0));
+            t.due("twelve are lost", before + 12 + (round == 0 ? 2 : 1), Inside.sent(x, 0));
+            t.due("done", 0, Inside.orders(x, 0));
         }
     }
 
@@ -236,10 +219,10 @@ public final class LinkInsideTest {
         sendOne(x);
         x.restart(1);
         sendOne(x);
-        t.due("the receiver's restart costs nothing", 3, sent(x, 0));
+        t.due("the receiver's restart costs nothing", 3, Inside.sent(x, 0));
         x.restart(0);
         sendOne(x);
-        t.due("the sender has to ask again", 5, sent(x, 0));
+        t.due("the sender has to ask again", 5, Inside.sent(x, 0));
     }
 
     private static void restartForgetsTheLinkOnEitherChannel() throws ReflectiveOperationException {
@@ -249,7 +232,7 @@ public final class LinkInsideTest {
             Messages.sendFrom(x, port, 1, 0);
             x.settle();
             for (int round = 0; round < 3; round++) {
-                int before = sent(x, e);
+                int before = Inside.sent(x, e);
                 if (round == 1) {
                     x.restart(e);
                 }
@@ -258,7 +241,7 @@ public final class LinkInsideTest {
                 }
                 Messages.sendFrom(x, port, 1, 1);
                 x.settle();
-                t.due("port " + port + ", round " + round, before + (round == 1 ? 2 : 1), sent(x, e));
+                t.due("port " + port + ", round " + round, before + (round == 1 ? 2 : 1), Inside.sent(x, e));
             }
         }
     }
@@ -267,13 +250,12 @@ public final class LinkInsideTest {
         LinkStack x = new LinkStack();
         x.disturb(0, 0, LOST);
         x.restart(0);
-        t.due("it is the link that remembers", 1, orders(x, 0));
+        t.due("it is the link that remembers", 1, Inside.orders(x, 0));
     }
 
     /** Drawn contents, as nothing here may presume how the checksum is reckoned. */
     private static void everyOneOrTwoBitsAreFound() throws ReflectiveOperationException {
-        Method checksum = LinkStack.class.getDeclaredMethod("checksum", int[].class, int.class, int.class);
-        checksum.setAccessible(true);
+        Method checksum = Inside.method("checksum", int[].class, int.class, int.class);
         Random r = new Random(1);
         for (int length : new int[] {6, 7, 18, 30}) {
             for (int content = 0; content < 12; content++) {

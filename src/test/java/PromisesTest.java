@@ -1,11 +1,10 @@
 /** Each promise of the document by itself, with ordinary inputs; the edges have tests of their own. */
 public final class PromisesTest {
     private static final int BAD = -1;
-    private static final int FULL = -2;
     private static final Due t = new Due();
 
     public static void main(String[] args) {
-        constants();
+        exampleOfTheReadme();
         promise1ObjectsAreApart();
         promise2Write();
         promise3Wipe();
@@ -31,9 +30,17 @@ public final class PromisesTest {
         Messages.holds(t, x, inbox, i, length, first);
     }
 
-    private static void constants() {
-        t.due("BAD", BAD, LinkStack.BAD);
-        t.due("FULL", FULL, LinkStack.FULL);
+    private static void exampleOfTheReadme() {
+        LinkStack x = new LinkStack();
+        t.due("write", 1, x.write(0, 104));
+        t.due("write", 2, x.write(0, 105));
+        t.due("post", 1, x.post(0, 1));
+        t.due("disturb", true, x.disturb(0, 0, 2));
+        t.due("restart", true, x.restart(1));
+        t.due("settled", false, x.settled());
+        t.due("settle", 1, x.settle());
+        t.due("byteAt", 104, x.byteAt(1 + 2 * 1, 0, 0));
+        t.due("take", 2, x.take(3));
     }
 
     private static void promise1ObjectsAreApart() {
