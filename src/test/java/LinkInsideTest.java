@@ -1,5 +1,6 @@
 import java.lang.reflect.Field;
 import java.lang.reflect.Method;
+import java.math.BigInteger;
 import java.util.Random;
 
 /**
@@ -27,6 +28,7 @@ public final class LinkInsideTest {
         restartForgetsTheLinkOnEitherChannel();
         restartLeavesTheOrders();
         everyOneOrTwoBitsAreFound();
+        checksumIsTheOneItIsSaidToBe();
         t.end();
     }
 
@@ -294,5 +296,33 @@ public final class LinkInsideTest {
         int checked = piece.length - 2;
         int sum = (int) checksum.invoke(null, piece, 0, checked);
         return sum == piece[checked] * 256 + piece[checked + 1];
+    }
+
+    /** 0x29B1 is what tables of checksums give for this one; below it is reckoned in another way. */
+    private static void checksumIsTheOneItIsSaidToBe() throws ReflectiveOperationException {
+        Method checksum = Inside.method("checksum", int[].class, int.class, int.class);
+        int[] digits = "123456789".chars().toArray();
+        t.due("checksum of the nine digits", 0x29B1, (int) checksum.invoke(null, digits, 0, 9));
+        Random r = new Random(2);
+        for (int n = 0; n < 20000; n++) {
+            int[] bytes = r.ints(28, 0, 256).toArray();
+            int from = r.nextInt(28);
+            int count = r.nextInt(29 - from);
+            int got = (int) checksum.invoke(null, bytes, from, count);
+            t.due("checksum of " + count + " bytes", remainder(bytes, from, count), got);
+        }
+    }
+
+    private static int remainder(int[] bytes, int from, int count) {
+        BigInteger value = BigInteger.valueOf(0xFFFF).shiftLeft(8 * count);
+        for (int i = 0; i < count; i++) {
+            value = value.xor(BigInteger.valueOf(bytes[from + i]).shiftLeft(8 * (count - i) + 8));
+        }
+        for (int bit = 8 * count + 15; bit >= 16; bit--) {
+            if (value.testBit(bit)) {
+                value = value.xor(BigInteger.valueOf(0x11021).shiftLeft(bit - 16));
+            }
+        }
+        return value.intValue();
     }
 }

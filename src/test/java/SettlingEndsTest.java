@@ -1,5 +1,6 @@
 import java.lang.reflect.Method;
 import java.util.Random;
+import java.util.concurrent.atomic.AtomicBoolean;
 
 /**
  * LANGUAGE.md, rules 7 and 8: settling ends, far below the bound of its loop and within the places
@@ -35,6 +36,12 @@ public final class SettlingEndsTest {
         for (int kind = 0; kind < 4; kind++) {
             stopsInTimeWhenOneArrives(kind);
         }
+        endsInTime("heavily disturbed", () -> {
+            for (int seed = 0; seed < SETTLINGS; seed++) {
+                LinkStack disturbed = heavilyDisturbed(new Random(seed));
+                disturbed.settle();
+            }
+        });
     }
 
     private static LinkStack withMessages(int count) {
@@ -61,6 +68,9 @@ public final class SettlingEndsTest {
             for (int n = 0; n < SETTLINGS; n++) {
                 x.post(n % 2, 1);
                 x.disturb(n % 2, n % 3, kind);
+                if (n % 5 == 0) {
+                    x.restart(n / 5 % 2);
+                }
                 x.settle();
                 x.take(3 - n % 2);
             }
@@ -68,12 +78,16 @@ public final class SettlingEndsTest {
     }
 
     private static void endsInTime(String what, Runnable work) throws InterruptedException {
-        Thread worker = new Thread(work);
+        AtomicBoolean ended = new AtomicBoolean();
+        Thread worker = new Thread(() -> {
+            work.run();
+            ended.set(true);
+        });
         worker.setDaemon(true);
         worker.start();
         worker.join(PATIENCE_MILLIS);
-        t.due(what + ": still running", false, worker.isAlive());
-        if (worker.isAlive()) {
+        t.due(what + ": ended in time", true, ended.get());
+        if (!ended.get()) {
             t.end();
         }
     }
@@ -124,7 +138,7 @@ public final class SettlingEndsTest {
         Method quiet = Inside.method("isQuiet");
         t.due("bound", true, Inside.constant("TICK_LIMIT") >= 1000 * TICKS_AT_MOST);
         int places = Inside.constant("UNDER_WAY");
-        for (int seed = 0; seed < 3000; seed++) {
+        for (int seed = 0; seed < SETTLINGS; seed++) {
             LinkStack x = heavilyDisturbed(new Random(seed));
             begin.invoke(x);
             int ticks = 0;
@@ -143,7 +157,7 @@ public final class SettlingEndsTest {
 
     private static void nothingIsLeftUnderWay() throws ReflectiveOperationException {
         t.about("no piece outlives a settling, so none can cross a restart");
-        for (int seed = 0; seed < 3000; seed++) {
+        for (int seed = 0; seed < SETTLINGS; seed++) {
             LinkStack x = heavilyDisturbed(new Random(seed));
             x.settle();
             t.due("seed " + seed + ": under way", 0, Inside.underWay(x));

@@ -23,6 +23,7 @@ public final class TermsBoundariesTest {
         waitingListHoldsEight();
         settlingGoesOnUntilEmptyOrFull();
         settlingComesAboutOnTheWorstLink();
+        settlingComesAboutWhateverBefallsTheFirstPieces();
         noAnswerDependsOnTheLink();
         inboxNumbers();
         t.end();
@@ -407,6 +408,40 @@ public final class TermsBoundariesTest {
                 t.due("total", 8, x.total(inbox));
                 Messages.holds(t, x, inbox, 2, 1, 70 + (inbox ^ 1));
             }
+        }
+    }
+
+    /** Every mixture of lost, doubled, spoiled, delayed and whole, for the first three pieces of either end. */
+    private static void settlingComesAboutWhateverBefallsTheFirstPieces() {
+        t.about("Whatever was done to the link before, this always comes about: every mixture of few orders");
+        for (int mixture = 0; mixture < 125 * 125 * 4; mixture++) {
+            LinkStack x = new LinkStack();
+            Messages.send(x, 0, 0, 1, 9);
+            x.settle();
+            x.take(1);
+            disturbFirstPieces(x, 0, mixture % 125);
+            disturbFirstPieces(x, 1, mixture / 125 % 125);
+            restart(x, mixture / (125 * 125));
+            Messages.send(x, 0, 0, 1, 10);
+            Messages.send(x, 0, 0, 2, 20);
+            Messages.send(x, 1, 0, 1, 30);
+            t.due("settle", 3, x.settle());
+            t.due("first length", 1, x.length(1, 0));
+            t.due("first byte", 10, x.byteAt(1, 0, 0));
+            t.due("second length", 2, x.length(1, 1));
+            t.due("second byte", 20, x.byteAt(1, 1, 0));
+            t.due("byte the other way", 30, x.byteAt(0, 0, 0));
+            t.due("settle again", 0, x.settle());
+        }
+    }
+
+    private static void disturbFirstPieces(LinkStack x, int e, int mixture) {
+        int rest = mixture;
+        for (int k = 0; k < 3; k++) {
+            if (rest % 5 < 4) {
+                x.disturb(e, k, rest % 5);
+            }
+            rest /= 5;
         }
     }
 
