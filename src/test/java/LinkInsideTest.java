@@ -1,7 +1,10 @@
+import java.lang.reflect.Array;
 import java.lang.reflect.Field;
 import java.lang.reflect.Method;
 import java.math.BigInteger;
+import java.util.Arrays;
 import java.util.Random;
+import java.util.Set;
 
 /**
  * No answer shows what is done to the link, so promises 5 and 6 are looked at from inside here:
@@ -26,6 +29,7 @@ public final class LinkInsideTest {
         twelveNewOrdersWhenTheOldAreDone();
         restartForgetsTheLink();
         restartForgetsTheLinkOnEitherChannel();
+        restartForgetsAllOfTheLinkAndNothingElse();
         restartLeavesTheOrders();
         everyOneOrTwoBitsAreFound();
         checksumIsTheOneItIsSaidToBe();
@@ -246,6 +250,48 @@ public final class LinkInsideTest {
                 t.due("port " + port + ", round " + round, before + (round == 1 ? 2 : 1), Inside.sent(x, e));
             }
         }
+    }
+
+    /** Beside a twin that is not started anew: what its end knows about the link is as in a new object. */
+    private static void restartForgetsAllOfTheLinkAndNothingElse() throws ReflectiveOperationException {
+        Set<String> aboutTheLink = Set.of("knowsNumber", "nextNumber", "toldFull", "owesAnswer", "resendIn");
+        int forgotten = 0;
+        for (int e = 0; e < 2; e++) {
+            LinkStack x = inTheMiddleOfAll();
+            LinkStack twin = inTheMiddleOfAll();
+            x.restart(e);
+            for (Field field : LinkStack.class.getDeclaredFields()) {
+                field.setAccessible(true);
+                int size = field.getType().isArray() ? Array.getLength(field.get(x)) : 0;
+                for (int i = 0; i < size; i++) {
+                    boolean forgets = aboutTheLink.contains(field.getName()) && i % 2 == e;
+                    Object due = Array.get(field.get(forgets ? new LinkStack() : twin), i);
+                    String where = "restart(" + e + "): " + field.getName() + " " + i;
+                    t.due(where, due.toString(), Array.get(field.get(x), i).toString());
+                    forgotten += due.equals(Array.get(field.get(twin), i)) ? 0 : 1;
+                }
+            }
+        }
+        t.due("there was something to forget", true, forgotten > 0);
+    }
+
+    private static LinkStack inTheMiddleOfAll() throws ReflectiveOperationException {
+        LinkStack x = new LinkStack();
+        for (int port = 0; port < 4; port++) {
+            for (int n = 0; n < 7; n++) {
+                Messages.sendFrom(x, port, n, 20 * port + n);
+            }
+        }
+        x.settle();
+        x.take(2);
+        for (int e = 0; e < 2; e++) {
+            x.write(e, 99);
+            x.disturb(e, 3, DELAYED);
+        }
+        // Nothing is owed and no resend is near between two calls; a restart is to forget even these.
+        Arrays.fill((boolean[]) Inside.field("owesAnswer").get(x), true);
+        Arrays.fill(Inside.ints(x, "resendIn"), 2);
+        return x;
     }
 
     private static void restartLeavesTheOrders() throws ReflectiveOperationException {
